@@ -556,7 +556,7 @@ public final class CodeVerifier {
             return TYPE_STEP * commonClass(left / TYPE_STEP, right / TYPE_STEP) + levels;
         }
 
-        /** How often the element type can be taken from a reference type such that it is one again. */
+        /** How often a reference type has an element type that is a reference type again. */
         private static int referenceLevels(int type) {
             int dimensions = type % TYPE_STEP;
             boolean endsPrimitive = type / TYPE_STEP < OBJECT_BASE;
@@ -753,7 +753,7 @@ public final class CodeVerifier {
             marked = other.marked;
         }
 
-        /** Takes the frame with which a handler begins, if another frame is left by an exception. */
+        /** Takes the frame with which a handler begins when an exception leaves another frame. */
         void copyCaught(Frame other, int caughtBase) {
             copyFrom(other);
             stack[0] = TYPE_STEP * caughtBase;
@@ -912,7 +912,8 @@ public final class CodeVerifier {
         private boolean isHandlerAllowed(int handler) {
             int start = code.starts[handler];
             int end = code.ends[handler];
-            if (start < 0 || start >= end || end > code.count || !code.isIndex(code.targets[handler])) {
+            boolean isRange = start >= 0 && start < end && end <= code.count;
+            if (!isRange || !code.isIndex(code.targets[handler])) {
                 return false;
             }
             for (int inner = 0; inner < handler; inner++) {
@@ -1043,7 +1044,6 @@ public final class CodeVerifier {
 
         /** POP2 and DUP2 take both slots at once, as they may be those of one LONG. */
         private void movePair(int op) {
-            require(frame.height >= 2, STACK_TOO_LOW);
             int upper = popSlot();
             int lower = popSlot();
             require(lower == LONG || isWhole(lower) && isWhole(upper), WRONG_VALUE);
@@ -1253,7 +1253,6 @@ public final class CodeVerifier {
         /** Pops a value that is assignable to a type. */
         private void popOfType(int type) {
             if (type == LONG) {
-                require(frame.height >= 2, STACK_TOO_LOW);
                 int upper = popSlot();
                 int lower = popSlot();
                 require(lower == LONG && upper == HIGH, WRONG_VALUE);
@@ -1423,7 +1422,7 @@ public final class CodeVerifier {
     /** Infers the frames by data-flow analysis. */
     private static final class Inference extends Analysis {
 
-        /** No run comes near it: every round raises a slot of one of 100 frames, or is the first there. */
+        /** No run comes near it: each round but the first ones goes back to a slot that rose. */
         private static final int MAX_ROUNDS = 1000000;
 
         private final FrameTable inferred;
@@ -1530,7 +1529,7 @@ public final class CodeVerifier {
             return kind;
         }
 
-        /** Takes the frame declared at an index; returns whether there is a frame that is allowed. */
+        /** Takes the frame declared at an index; returns whether an allowed frame is present. */
         private boolean enter(int index, boolean isReached) {
             if (!declared.contains(index)) {
                 return isReached;

@@ -136,6 +136,13 @@ final class DeclaredFramesTest {
     private static void adoptAtHandlers() {
         Run run = new Run("handlers").due(STATIC_VOID + "begin(0, 1, 1) = 0");
         run.code(1, 0, 23, 4, 0, 0, 22, 6, 30, 0, 0, 0, 30, 0, 0, 0, 31, 0);
+        new Run("a target that is also the next instruction").due(STATIC_VOID + "begin(0, 1, 1) = 0")
+                .code(3, 0, 10, 0, 30, 0).due("infer() = 0; adoptFrames() = 0; addHandler(0, 1, 1, 2) = 0;"
+                + "infer() = 0; adoptFrames() = 1; check() = 0; begin(0, 1, 1) = 0").code(3, 0, 0, 0, 10, 0, 30, 0, 30, 0)
+                .due("addHandler(4, 5, 1, 2) = 0; infer() = 0; adoptFrames() = 0; addHandler(3, 5, 4, 2) = 1;"
+                + "infer() = 0; adoptFrames() = 2; declareFrame(1, false) = 2; declareFrame(4, false) = 2");
+        new Run("the only instruction").due(STATIC_VOID + "begin(0, 1, 1) = 0; emit(22, 0) = 0; infer() = 0;"
+                + "adoptFrames() = 1; check() = 0");
         run.due("addHandler(5, 6, 7, 2) = 0; infer() = 0; hasFrame(5) = false; hasFrame(7) = false;"
                 + "adoptFrames() = 2; addHandler(4, 6, 7, 2) = 1; infer() = 0; hasFrame(7) = true;"
                 + "hasFrame(8) = true; adoptFrames() = 3");

@@ -10,6 +10,7 @@ final class InferenceTest {
     public static void main(String[] args) {
         noCode();
         operands();
+        branchTargets();
         handlerRanges();
         orderOfTheExamination();
         firstFrames();
@@ -99,9 +100,20 @@ final class InferenceTest {
                         .due("infer() = " + (locals == 0 || isLong ? 1 : 0));
             }
         }
+        run("the first instruction").due("begin(0, 2, 1) = 0").code(4, 1, 30, 0, 4, 1)
+                .due("infer() = 1; errorPosition() = 0; check() = 1; errorPosition() = 0");
         run("the members at the time of infer").due("begin(0, 2, 1) = 0").code(30, 0, 34, 7, 32, 1, 37, 5)
                 .due("infer() = 1; errorPosition() = 1; declareClass(2, false) = 7; infer() = 1; errorPosition() = 2;"
                 + "declareField(2, 0) = 1; infer() = 1; errorPosition() = 3; declareMethod(2, 1, 0) = 5; infer() = 0");
+    }
+
+    private static void branchTargets() {
+        for (int op = 22; op <= 26; op++) {
+            int push = op < 25 ? 1 : 3;
+            run("the successors of " + op).due("begin(0, 2, 1) = 0").code(push, 0, push, 0, op, 5, 30, 0, 0, 0, 30, 0)
+                    .due("infer() = 0; hasFrame(3) = " + (op != 22) + "; hasFrame(4) = false; stackHeight(5) = "
+                    + (op == 22 ? 2 : op == 24 || op == 26 ? 0 : 1) + "; adoptFrames() = 1; visits() = " + (op == 22 ? 4 : 5));
+        }
     }
 
     private static void ranges(boolean isAllowed, int... handlers) {
@@ -237,6 +249,8 @@ final class InferenceTest {
         run("a mark that comes later alone").due("begin(2, 2, 1) = 1")
                 .code(3, 0, 25, 6, 6, 0, 35, 3, 3, 0, 9, 0, 3, 0, 9, 0, 30, 0)
                 .due("infer() = 9; errorPosition() = 8; visits() = 9");
+        run("a mark that comes second").due("begin(2, 1, 1) = 1").code(3, 0, 25, 5, 6, 0, 35, 3, 22, 6, 0, 0, 22, 6)
+                .due("infer() = 0; isMarked(4) = false; isMarked(6) = true; visits() = 7");
         run("no way back from the mark").due("begin(2, 1, 1) = 1").code(30, 0).due("infer() = 9; errorPosition() = 0");
     }
 
@@ -313,6 +327,11 @@ final class InferenceTest {
                 + "begin(0, 1, 1) = 0; errorPosition() = 1; visits() = 2; emit(30, 0) = 0; infer() = 0;"
                 + "errorPosition() = -1; visits() = 1; emit(30, 0) = 1; check() = 10; errorPosition() = 1; visits() = 1;"
                 + "infer() = 0; errorPosition() = -1; visits() = 1");
+        run("each call begins anew").due("begin(0, 1, 1) = 0").code(1, 0, 23, 3, 30, 0, 30, 0)
+                .due("infer() = 0; visits() = 4; infer() = 0; visits() = 4; begin(0, 1, 1) = 0")
+                .code(1, 0, 23, 3, 10, 0, 30, 0).due("infer() = 3; errorPosition() = 2; visits() = 3; infer() = 3;"
+                + "errorPosition() = 2; visits() = 3; begin(0, 1, 1) = 0").code(22, 0, 0, 0, 0, 0, 0, 0)
+                .due("infer() = 0; visits() = 1; hasFrame(3) = false");
         run("an error takes the frames").due("begin(0, 1, 1) = 0; emit(22, 0) = 0; infer() = 0; hasFrame(0) = true;"
                 + "check() = 10; hasFrame(0) = true; emit(34, 19) = 1; infer() = 1; hasFrame(0) = false;"
                 + "begin(1, 1, 1) = 0; emit(30, 0) = 0; infer() = 9; hasFrame(0) = false; stackHeight(0) = ISE");

@@ -314,6 +314,11 @@ final class InstructionsTest {
         step(" | -11", 34, 3, "error 4");
         step(" | -11 0 0 0 0 0", 34, 3, "error 4");
         step("-11 | -10 -12", 34, 2, " | -10 -12 -11");
+        new Run("the value in a local variable becomes TOP").due("declareMethod(2, 1, -1) = 0; begin(0, 1, 2) = 0")
+                .code(30, 0, 34, 2, 22, 2).due("pushLocal(-11) = 1; pushLocal(-10) = 2; declareFrame(1, false) = 1;"
+                + "pushLocal(-2) = 1; pushLocal(-10) = 2; pushStack(-11) = 1; declareFrame(2, false) = 2; check() = 0;"
+                + "pushLocal(-11) = 1; pushLocal(-10) = 2; pushStack(-11) = 1; declareFrame(2, false) = 2; check() = 10;"
+                + "errorPosition() = 2");
         plain("locals become TOP", 3, 34, 3, 9, 1, 22, 0).due("infer() = 0; localSlot(1, 1) = -2; visits() = 3;"
                 + "localSlot(2, 1) = -10");
         plain("NEW in a loop", 3, 34, 3, 12, 0, 9, 1, 25, 5, 30, 0, 6, 1, 10, 0, 22, 0).due(
