@@ -100,7 +100,7 @@ final class FaceTest {
         Random random = new Random(seed);
         CodeVerifier verifier = new CodeVerifier();
         CodeVerifier second = new CodeVerifier();
-        for (int n = 0; n < 512; n++) {
+        for (int n = 0; n < 511; n++) {
             String[] row = FACE[random.nextInt(FACE.length)];
             if (n < 40 && random.nextInt(2) == 0) {
                 row = FACE[random.nextInt(4)];
