@@ -49,6 +49,12 @@ final class DeclarationEdges {
         run.due("digest() = " + Edges.sum(19, 0, 0, 0, 0, 0) + "; declareClass(2, true) = 19; declareClass(2, true) = ISE;"
                 + "declareClass(2, false) = ISE; declareClass(18, false) = ISE; digest() = "
                 + Edges.sum(20, 0, 0, 0, 0, 0) + "; isAssignable(152, 16) = true; isAssignable(160, 16) = IAE");
+        // base 20 is none of the 20 bases in any call
+        run.due("declareField(20, 0) = IAE; declareField(18, 160) = IAE; declareField(18, 156) = 0; parameter(160) = IAE;"
+                + "declareMethod(20, 0, -1) = IAE; declareMethod(20, 1, -1) = IAE; declareMethod(20, 2, -1) = IAE;"
+                + "declareMethod(2, 1, 160) = IAE; declareMethod(19, 0, 156) = 0; declareMethod(2, 1, -1) = 1; join(16, 160) = IAE;"
+                + "pushLocal(160) = IAE; pushStack(160) = IAE; begin(1, 1, 1) = 0; addHandler(0, 1, 0, 20) = IAE;"
+                + "addHandler(0, 1, 0, 19) = IAE; addHandler(0, 1, 0, 18) = 0");
     }
 
     // ---- fields

@@ -18,6 +18,7 @@ final class ExaminationEdges {
         classOperands();
         methodOperands();
         typeOperands();
+        fullTables();
         freeOperands();
         noInstructions();
         firstOperand();
@@ -106,6 +107,33 @@ final class ExaminationEdges {
             operand("38: a type with at most 3 dimensions", "", 1, 38, value, false);
             operand("44, 45: a reference type", "", 1, 44, value, false);
             operand("44, 45: a reference type", "", 1, 45, value, false);
+        }
+    }
+
+    /** Operands just inside and just outside of full tables. */
+    private static void fullTables() {
+        StringBuilder bases = new StringBuilder();
+        for (int base = 6; base < 20; base++) {
+            bases.append("declareClass(3, false) = ").append(base).append(";");
+        }
+        StringBuilder methods = new StringBuilder();
+        for (int method = 4; method < 30; method++) {
+            methods.append("declareMethod(2, ").append(method % 3).append(", -1) = ").append(method).append(";");
+        }
+        for (int operand : new int[] {18, 19, 20, 21}) {
+            operand("34: a class, not an interface (and not INT or LONG)", bases.toString(), 1, 34, operand, operand <= 19);
+        }
+        for (int type : new int[] {152, 155, 156, 157, 159, 160, 161}) {
+            operand("38: a type with at most 3 dimensions", bases.toString(), 1, 38, type, type <= 155);
+            operand("44, 45: a reference type", bases.toString(), 1, 44, type, type <= 156);
+            operand("44, 45: a reference type", bases.toString(), 1, 45, type, type <= 156);
+        }
+        for (int operand : new int[] {26, 27, 28, 29, 30, 31}) {
+            for (int op = 35; op <= 37; op++) {
+                int kind = op == 35 ? 2 : op - 36;
+                operand("35 to 37: a method of the kind that is named", methods.toString(), 1, op, operand,
+                        operand <= 29 && operand % 3 == kind);
+            }
         }
     }
 

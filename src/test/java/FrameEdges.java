@@ -209,6 +209,9 @@ final class FrameEdges {
                 + "check() = 0; begin(0, 1, 1) = 0").code(22, 0).due("infer() = 0; adoptFrames() = 1; check() = 0;"
                 + "begin(0, 1, 1) = 0").code(1, 0, 23, 2, 30, 0).due("infer() = 0; adoptFrames() = 1;"
                 + "declareFrame(2, false) = 1; check() = 0");
+        // the target has a frame, but the jump has none
+        edge("15", quote).due(STATIC_VOID + "begin(0, 1, 1) = 0").code(0, 0, 0, 0, 30, 0, 22, 1).due("infer() = 0;"
+                + "hasFrame(1) = true; adoptFrames() = 0; declareFrame(1, false) = 1");
         Run all = edge("15", "Returns the number of indices with a declared frame").due(STATIC_VOID + "begin(0, 1, 1) = 0");
         for (int index = 0; index < 100; index++) {
             all.code(22, (index + 1) % 100);
@@ -242,6 +245,15 @@ final class FrameEdges {
                 .due("addHandler(0, 1, 4, 2) = 0; addHandler(4, 5, 5, 2) = 1; infer() = 0; adoptFrames() = 3;"
                 + "begin(0, 1, 1) = 0").code(3, 0, 10, 0, 30, 0).due("infer() = 0; adoptFrames() = 0;"
                 + "addHandler(0, 1, 1, 2) = 0; infer() = 0; adoptFrames() = 1; check() = 0");
+        // each handler with its own range and target: 3 is a target, 1 only that of a handler whose range is not reached
+        edge("15", quote).due(STATIC_VOID + "begin(0, 1, 1) = 0").code(3, 0, 10, 0, 3, 0, 10, 0, 30, 0, 30, 0).due(
+                "addHandler(5, 6, 1, 2) = 0; addHandler(2, 3, 3, 2) = 1; infer() = 0; adoptFrames() = 1; check() = 10;"
+                + "errorPosition() = 5; declareFrame(3, false) = 1; check() = 10; errorPosition() = 2;"
+                + "begin(0, 1, 1) = 0").code(3, 0, 10, 0, 3, 0, 10, 0, 30, 0).due("addHandler(0, 1, 1, 2) = 0;"
+                + "addHandler(2, 3, 3, 2) = 1; infer() = 0; adoptFrames() = 2; check() = 0");
+        // the target has a frame, but not from the handler, whose range is not reached
+        edge("15", quote).due(STATIC_VOID + "begin(0, 1, 1) = 0").code(0, 0, 0, 0, 30, 0, 30, 0).due("addHandler(3, 4, 1, 2) = 0;"
+                + "infer() = 0; hasFrame(1) = true; adoptFrames() = 0; declareFrame(1, false) = 1");
     }
 
     private static void adoptBehindEnds() {

@@ -66,6 +66,10 @@ final class InferenceEdges {
                 + "; localSlot(" + end + ", 0) = -2");
         run.due("begin(0, 1, 1) = 0").code(0, 0, 0, 0, 0, 0, 30, 0, 31, 0).due("addHandler(0, 4, 4, 3) = 0;"
                 + "addHandler(0, 4, 4, 2) = 1; infer() = 0; visits() = 5; stackSlot(4, 0) = 16");
+        // what is pending at an error is not pending in the next inference
+        run.due("begin(0, 1, 1) = 0").code(1, 0, 23, 3, 10, 0, 30, 0).due("infer() = 3; errorPosition() = 2; visits() = 3;"
+                + "infer() = 3; visits() = 3; begin(0, 1, 1) = 0").code(30, 0, 30, 0, 30, 0, 30, 0).due("infer() = 0;"
+                + "visits() = 1; hasFrame(3) = false");
         Run first = edge("16, 19", "The first frame is set at index 0, which is pending.");
         first.due("begin(4, 1, 5) = 5").code(22, 0).due("infer() = 0; visits() = 1; localSlot(0, 0) = 40; infer() = 0;"
                 + "visits() = 1; begin(4, 1, 5) = 5").code(3, 0, 9, 0, 22, 0).due("infer() = 0; visits() = 3;"

@@ -561,6 +561,11 @@ final class InstructionEdges {
         step(" | 0 0 0 0 0 -11", 34, 3, "error 4");
         step(" | 0 0 0 0 0 -10", 34, 3, "error 6");
         step("-11 | 0 0 0 0 0", 34, 3, "-2 | 0 0 0 0 0 -11");
+        // a value that has been popped is no longer on the stack; a full stack of twelve has no room
+        new Run(title).due(BASES + "begin(0, 12, 0) = 0").code(30, 0, 10, 0, 34, 3, 10, 0, 30, 0).due("pushStack(-12) = 1;"
+                + "declareFrame(1, false) = 1; check() = 0; begin(0, 12, 0) = 0").make("emit(1, 0);".repeat(12)).code(34, 3)
+                .due("infer() = 6; errorPosition() = 12; check() = 6; errorPosition() = 12; begin(0, 12, 0) = 0")
+                .make("emit(1, 0);".repeat(11)).code(34, 3, 30, 0).due("infer() = 0; stackSlot(12, 11) = -21; check() = 0");
     }
 
     /** That the locals become TOP shows where the declared frame has another value than TOP for them. */
@@ -571,6 +576,9 @@ final class InstructionEdges {
                 + "pushLocal(-2) = 1; pushLocal(-10) = 2; pushStack(-11) = 1; declareFrame(2, false) = 2; check() = 0;"
                 + "pushLocal(-11) = 1; pushLocal(-10) = 2; pushStack(-11) = 1; declareFrame(2, false) = 2; check() = 10;"
                 + "errorPosition() = 2");
+        new Run(title).due("declareMethod(2, 1, -1) = 0; begin(0, 1, 2) = 0").code(30, 0, 34, 2, 10, 0, 6, 1, 10, 0, 30, 0)
+                .due("pushLocal(-11) = 1; pushLocal(-10) = 2; declareFrame(1, false) = 1; check() = 0; pushLocal(-10) = 1;"
+                + "pushLocal(-11) = 2; declareFrame(1, false) = 1; check() = 5; errorPosition() = 3");
         plain(3, 34, 3, 9, 1, 22, 0).due("infer() = 0; localSlot(1, 1) = -2; visits() = 3; localSlot(2, 1) = -10");
         plain(3, 34, 3, 12, 0, 9, 1, 25, 5, 30, 0, 6, 1, 10, 0, 22, 0).due(
                 "infer() = 0; localSlot(0, 1) = -2; localSlot(5, 1) = -10");
@@ -599,6 +607,10 @@ final class InstructionEdges {
             step(" | " + a, 35, 7, "error 4");
         }
         step(" |", 35, 6, "error 3");
+        // a former code had a NEW at 5; this one ends at 2
+        new Run(title).due(BASES + "begin(0, 1, 0) = 0").code(34, 3, 34, 3, 34, 3, 34, 3, 34, 3, 34, 3).due("begin(0, 1, 0) = 0")
+                .code(30, 0, 35, 6, 30, 0).due("pushStack(-15) = 1; declareFrame(1, false) = 1; check() = 4; errorPosition() = 1;"
+                + "emit(30, 0) = 3; emit(30, 0) = 4; check() = 4; emit(34, 3) = 5; check() = 10; errorPosition() = 3");
         // the last instruction of a full code is a NEW: -109
         Run last = new Run(title).due(BASES + "begin(0, 1, 0) = 0").code(30, 0, 35, 6, 30, 0);
         last.make("emit(30, 0);".repeat(96)).due("emit(34, 3) = 99; pushStack(-109) = 1; declareFrame(1, false) = 1;"
@@ -641,6 +653,10 @@ final class InstructionEdges {
         method = 0;
         plain(4, 34, 3, 12, 0, 9, 3, 34, 3, 9, 0, 12, 0, 35, 6, 30, 0).due("infer() = 0; stackHeight(7) = 1;"
                 + "stackSlot(7, 0) = 24; localSlot(7, 3) = 24; localSlot(7, 0) = -13; localSlot(7, 1) = -2; check() = 0");
+        // the owner of the method of the code is A: B and C are what the NEW and the constructor say
+        plain(1, 34, 4, 12, 0, 9, 0, 12, 0, 35, 5, 30, 0).due("infer() = 0; stackSlot(5, 0) = 32; localSlot(5, 0) = 32;"
+                + "begin(0, 2, 1) = 0").code(34, 6, 12, 0, 35, 13, 30, 0).due("infer() = 0; stackSlot(3, 0) = 48;"
+                + "begin(0, 2, 1) = 0").code(34, 2, 12, 0, 35, 7, 30, 0).due("infer() = 0; stackSlot(3, 0) = 16");
         sentence("INVOKESPECIAL on THIS removes the mark.");
         new Run(title).due(BASES + "begin(5, 2, 2) = 1").code(6, 0, 12, 0, 9, 1, 35, 6, 30, 0).due("infer() = 0;"
                 + "localSlot(3, 0) = -4; localSlot(3, 1) = -4; isMarked(0) = true; isMarked(3) = true;"
