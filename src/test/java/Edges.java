@@ -1,7 +1,3 @@
-import java.io.IOException;
-import java.nio.charset.StandardCharsets;
-import java.nio.file.Files;
-import java.nio.file.Path;
 import java.util.ArrayList;
 import java.util.List;
 
@@ -14,7 +10,6 @@ final class Edges {
     static final int MIN = Integer.MIN_VALUE;
     static final int MAX = Integer.MAX_VALUE;
 
-    private static final Path DOCUMENT = Path.of("..", "shared", "DOC.md");
     private static final List<Sentence> SENTENCES = new ArrayList<>();
 
     private Edges() {
@@ -77,7 +72,7 @@ final class Edges {
     /** Reads the sections 1 to 4 and the promises; each line of the document is a paragraph. */
     static void readDocument() {
         int promise = -1;
-        for (String line : documentLines()) {
+        for (String line : Texts.document()) {
             String text = line.trim();
             if (text.startsWith("== ")) {
                 promise = text.charAt(3) <= '4' ? 0 : -1;
@@ -90,15 +85,6 @@ final class Edges {
                     addSentence(promise, sentence);
                 }
             }
-        }
-    }
-
-    private static List<String> documentLines() {
-        try {
-            return Files.readAllLines(DOCUMENT, StandardCharsets.UTF_8);
-        } catch (IOException e) {
-            Run.fail("the document can't be read: " + e);
-            return List.of();
         }
     }
 

@@ -5,6 +5,8 @@ import java.lang.reflect.Modifier;
 import java.util.Arrays;
 import java.util.Random;
 import java.util.TreeSet;
+import java.util.regex.Matcher;
+import java.util.regex.Pattern;
 
 /** The public face, and that no call throws anything but what the document names. */
 final class FaceTest {
@@ -45,6 +47,22 @@ final class FaceTest {
             }
         }
         Run.same("methods", found, due);
+        Run.same("methods of the document", documented(), due);
+    }
+
+    /** The methods that the document lists, each written as row() writes it. */
+    private static TreeSet<String> documented() {
+        Pattern signature = Pattern.compile("    public (\\w+ \\w+)\\((.*)\\)(?: throws (.*))?;");
+        TreeSet<String> rows = new TreeSet<>();
+        for (String line : Texts.document()) {
+            Matcher matcher = signature.matcher(line);
+            if (matcher.matches()) {
+                String types = matcher.group(2).replaceAll(" \\w+(,|$) ?", "$1");
+                String thrown = matcher.group(3) == null ? "" : ", " + matcher.group(3).replace("java.util.", "");
+                rows.add("[" + matcher.group(1) + "(" + types + ")" + thrown + "]");
+            }
+        }
+        return rows;
     }
 
     private static String row(Method method) {
